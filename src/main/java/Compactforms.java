@@ -706,16 +706,16 @@ public final class Compactforms {
             System.arraycopy(points, index + 1, points, index, count - index);
         }
 
-        /** How many stand ahead of such a one: by rising points, of the same points by rising members. */
+        /** How many of a row in this order stand ahead: by rising points, of the same points by rising members. */
         int countAhead(int value, int bits) {
-            int ahead = 0;
+            int place = orderOf(bits);
             for (int i = 0; i < count; i++) {
-                int order = Integer.compare(orderOf(points[i]), orderOf(bits));
-                if (order < 0 || order == 0 && entries[i] < value) {
-                    ahead++;
+                int order = Integer.compare(orderOf(points[i]), place);
+                if (order > 0 || order == 0 && entries[i] >= value) {
+                    return i;
                 }
             }
-            return ahead;
+            return count;
         }
 
         /** Bits of floats rise as the floats do, but those below 0 fall: turned over they rise, too. */

@@ -31,6 +31,8 @@ public final class PromisesTest {
         promise18();
         promise19();
         promise19Contents();
+        promise19FullLogs();
+        promise19Streams();
         promise20();
         promise20Forms();
         promise21();
@@ -429,6 +431,7 @@ public final class PromisesTest {
             checks.is("read of 40", entry, () -> x.read(2, 2, 3));
         }
         checks.is("waiting of 40", 40, () -> x.waiting(2, 2, 3));
+        checks.is("done of the 40th", true, () -> x.done(2, 2, 40));
         checks.is("read behind 40", Compactforms.NONE, () -> x.read(2, 2, 3));
     }
 
@@ -625,6 +628,14 @@ public final class PromisesTest {
             checks.throwsArgument("sample of " + many, () -> x.sample(many));
         }
         promise16AllAtOnce();
+        Compactforms lone = new Compactforms();
+        lone.push(0, 1, true);
+        lone.expire(0, 2);
+        lone.tick(1);
+        lone.sample(1);
+        lone.tick(1);
+        checks.is("sample of a lone key again", 1, () -> lone.sample(1));
+        checks.is("held", 0, () -> lone.held());
     }
 
     private static void promise16AllAtOnce() {
@@ -750,6 +761,55 @@ public final class PromisesTest {
         String later = all(x);
         x.restart();
         checks.same("all behind the next restart", later, all(x));
+    }
+
+    private static void promise19FullLogs() {
+        checks.part("promise 19, full logs");
+        Compactforms x = new Compactforms();
+        for (int key = 0; key < 7; key++) {
+            fillStream(x, key, 40);
+        }
+        x.rewrite();
+        fillSet(x, 7, 20);
+        checks.is("writeOn", 0, () -> x.writeOn(16));
+        checks.is("rows that all stay", 300, () -> x.rows());
+        checks.is("rewrite", 8, () -> x.rewrite());
+        checks.is("writeOn", 0, () -> x.writeOn(8));
+        checks.is("rows that all stay", 300, () -> x.rows());
+        checks.is("restart", 8, () -> x.restart());
+        checks.is("sizes", "40 20", () -> x.size(6) + " " + x.size(7));
+    }
+
+    private static void promise19Streams() {
+        checks.part("promise 19, streams");
+        Compactforms x = new Compactforms();
+        x.append(0, 1);
+        x.read(0, 0, 0);
+        x.remove(0);
+        x.append(0, 2);
+        x.append(0, 3);
+        x.read(0, 0, 0);
+        x.tick(5);
+        x.read(0, 0, 1);
+        checks.is("claim of one of two", 1, () -> x.claim(0, 0, 2, 5));
+        x.append(1, 9);
+        x.rewrite();
+        x.writeOn(16);
+        checks.is("rows since it was made", 6, () -> x.rows());
+        String before = all(x);
+        x.restart();
+        checks.same("all", before, all(x));
+        x.rewrite();
+        x.writeOn(16);
+        checks.is("rows behind a restart", 6, () -> x.rows());
+        x.expire(0, 1);
+        x.tick(1);
+        x.append(0, 4);
+        x.rewrite();
+        x.writeOn(16);
+        checks.is("rows since it was made anew", 2, () -> x.rows());
+        x.restart();
+        checks.same("its entries", "4", entries(x, 0));
     }
 
     private static void promise20() {
