@@ -1,3 +1,5 @@
+import java.util.List;
+
 /** Counts what is as due and prints what is not; every test ends with finish(). */
 final class Checks {
     interface Call {
@@ -5,6 +7,7 @@ final class Checks {
     }
 
     private final String name;
+    private Document document = null;
     private String part = "";
     private int passed = 0;
     private int failed = 0;
@@ -15,6 +18,27 @@ final class Checks {
 
     void part(String title) {
         part = title;
+    }
+
+    /** The checks behind this are of these words of the document, in the section that begins with those. */
+    void says(String section, String words) {
+        String heading = document().heading(section);
+        part(heading + ": \"" + words + "\"");
+        same("to be in the document", true, document().quote(heading, words));
+    }
+
+    /** Every clause of the sections from one to another must have been said. */
+    void allSaid(String from, String to) {
+        part("the document");
+        List<String> left = document().unquoted(document().heading(from), document().heading(to));
+        same("clauses without a test", "", String.join("\n", left));
+    }
+
+    private Document document() {
+        if (document == null) {
+            document = new Document();
+        }
+        return document;
     }
 
     void same(String what, Object due, Object got) {
@@ -40,6 +64,16 @@ final class Checks {
 
     void throwsState(String what, Call call) {
         same(what, "throws.IllegalStateException", answerOf(call));
+    }
+
+    void throwsNamed(String what, String exception, Call call) {
+        same(what, "throws." + exception, answerOf(call));
+    }
+
+    /** What the answer is does not matter here, but that there is one. */
+    void answers(String what, Call call) {
+        Object got = answerOf(call);
+        same(what + " (" + got + ") throws", false, got.toString().startsWith("throws."));
     }
 
     /** The exact class of an exception counts: one that only the machine throws is another. */

@@ -54,54 +54,13 @@ public final class PromisesTest {
 
     // ---- what tests are made of
 
-    private static void fillList(Compactforms x, int key, int many) {
-        for (int i = 0; i < many; i++) {
-            x.push(key, i, true);
-        }
-    }
-
-    private static void fillSet(Compactforms x, int key, int many) {
-        for (int i = 0; i < many; i++) {
-            x.add(key, i);
-        }
-    }
-
-    private static void fillSorted(Compactforms x, int key, int many) {
-        for (int i = 0; i < many; i++) {
-            x.rate(key, i, ONE);
-        }
-    }
-
-    private static void fillStream(Compactforms x, int key, int many) {
-        for (int i = 0; i < many; i++) {
-            x.append(key, i);
-        }
-    }
-
-    private static void fillLog(Compactforms x) {
-        for (int i = x.rows(); i < 300; i += 2) {
-            x.push(15, 1, true);
-            if (x.rows() < 300) {
-                x.pop(15, true);
-            }
-        }
-    }
-
-    private static String entries(Compactforms x, int key) {
-        StringBuilder told = new StringBuilder();
-        for (int i = 0; i < x.size(key); i++) {
-            told.append(x.at(key, i)).append(x.at(key, i) == x.atByPlain(key, i) ? " " : "? ");
-        }
-        return told.toString().trim();
-    }
-
     /** All that can be asked of the keys 0 to 4 and the log, in one text. */
-    private static String all(Compactforms x) {
+    private static String all(Counted x) {
         StringBuilder told = new StringBuilder();
         told.append(x.held()).append('/').append(x.rows());
         for (int key = 0; key < 5; key++) {
             told.append('|').append(x.typeOf(key)).append(x.formOf(key)).append(' ').append(x.left(key));
-            told.append(' ').append(entries(x, key));
+            told.append(' ').append(x.entries(key));
             for (int i = 0; i < 12; i++) {
                 told.append(' ').append(x.waiting(key, i / 4, i % 4));
             }
@@ -113,7 +72,7 @@ public final class PromisesTest {
 
     private static void promise1() {
         checks.part("promise 1");
-        Compactforms x = new Compactforms();
+        Counted x = new Counted();
         for (int key = 0; key < 16; key++) {
             int k = key;
             checks.is("typeOf", Compactforms.ABSENT, () -> x.typeOf(k));
@@ -124,7 +83,7 @@ public final class PromisesTest {
         checks.is("restart", 0, () -> x.restart());
         checks.throwsState("writeOn without a rewriting", () -> x.writeOn(1));
         checks.is("the clock", 1, () -> x.tick(1));
-        Compactforms other = new Compactforms();
+        Counted other = new Counted();
         x.push(0, 1, true);
         checks.is("another object's size", 0, () -> other.size(0));
         checks.is("NONE", -1, () -> Compactforms.NONE);
@@ -135,16 +94,16 @@ public final class PromisesTest {
 
     private static void promise2() {
         checks.part("promise 2");
-        Compactforms x = new Compactforms();
+        Counted x = new Counted();
         checks.is("push at the end", 1, () -> x.push(0, 5, true));
         checks.is("push at the end", 2, () -> x.push(0, 0, true));
         checks.is("push at the beginning", 3, () -> x.push(0, 9999, false));
         checks.is("push of the same", 4, () -> x.push(0, 5, false));
-        checks.same("entries", "5 9999 5 0", entries(x, 0));
+        checks.same("entries", "5 9999 5 0", x.entries(0));
         for (int value : NO_VALUES) {
             checks.throwsArgument("push of " + value, () -> x.push(0, value, true));
         }
-        fillList(x, 15, 40);
+        x.fillList(15, 40);
         checks.is("size", 40, () -> x.size(15));
         checks.throwsState("push of a 41st", () -> x.push(15, 1, true));
         checks.throwsState("push of a 41st", () -> x.push(15, 1, false));
@@ -168,8 +127,8 @@ public final class PromisesTest {
     private static void promise2Forms() {
         checks.part("promise 2, forms");
         for (int many = 1; many <= 40; many++) {
-            Compactforms x = new Compactforms();
-            fillList(x, 3, many);
+            Counted x = new Counted();
+            x.fillList(3, many);
             int form = many <= 8 ? Compactforms.SMALL : Compactforms.BIG;
             checks.is("form of a list of " + many, form, () -> x.formOf(3));
             checks.is("its last", many - 1, () -> x.at(3, x.size(3) - 1));
@@ -178,12 +137,12 @@ public final class PromisesTest {
                 checks.is("its first behind a new one", 0, () -> x.at(3, 1));
             }
         }
-        Compactforms x = new Compactforms();
+        Counted x = new Counted();
         x.push(0, 255, true);
         checks.is("form with 255", Compactforms.SMALL, () -> x.formOf(0));
         x.push(0, 256, false);
         checks.is("form with 256", Compactforms.BIG, () -> x.formOf(0));
-        checks.same("entries", "256 255", entries(x, 0));
+        checks.same("entries", "256 255", x.entries(0));
         x.pop(0, false);
         checks.is("form for good", Compactforms.BIG, () -> x.formOf(0));
         x.pop(0, true);
@@ -196,12 +155,12 @@ public final class PromisesTest {
 
     private static void promise3() {
         checks.part("promise 3");
-        Compactforms x = new Compactforms();
+        Counted x = new Counted();
         checks.throwsState("pop of no key", () -> x.pop(0, true));
-        fillList(x, 0, 4);
+        x.fillList(0, 4);
         checks.is("pop at the end", 3, () -> x.pop(0, true));
         checks.is("pop at the beginning", 0, () -> x.pop(0, false));
-        checks.same("entries", "1 2", entries(x, 0));
+        checks.same("entries", "1 2", x.entries(0));
         x.expire(0, 9);
         x.pop(0, true);
         checks.is("pop of the last one", 1, () -> x.pop(0, true));
@@ -210,7 +169,7 @@ public final class PromisesTest {
         checks.throwsState("pop of no list", () -> x.pop(0, false));
         x.push(0, 1, true);
         checks.is("left of a new one", Compactforms.NONE, () -> x.left(0));
-        fillList(x, 1, 40);
+        x.fillList(1, 40);
         StringBuilder popped = new StringBuilder();
         for (int i = 0; i < 40; i++) {
             popped.append(x.pop(1, i % 2 == 0)).append(' ');
@@ -227,16 +186,16 @@ public final class PromisesTest {
 
     private static void promise4() {
         checks.part("promise 4");
-        Compactforms x = new Compactforms();
+        Counted x = new Counted();
         checks.is("add", true, () -> x.add(0, 9999));
         checks.is("add", true, () -> x.add(0, 0));
         checks.is("add of a member", false, () -> x.add(0, 9999));
         checks.is("rows", 2, () -> x.rows());
-        checks.same("members", "0 9999", entries(x, 0));
+        checks.same("members", "0 9999", x.entries(0));
         for (int value : NO_VALUES) {
             checks.throwsArgument("add of " + value, () -> x.add(0, value));
         }
-        fillSet(x, 1, 40);
+        x.fillSet(1, 40);
         checks.throwsState("add of a 41st", () -> x.add(1, 40));
         checks.is("add of a member of 40", false, () -> x.add(1, 39));
         x.push(2, 1, true);
@@ -257,34 +216,34 @@ public final class PromisesTest {
     private static void promise4Forms() {
         checks.part("promise 4, forms");
         for (int many = 1; many <= 40; many++) {
-            Compactforms x = new Compactforms();
-            fillSet(x, 0, many);
+            Counted x = new Counted();
+            x.fillSet(0, many);
             int form = many <= 8 ? Compactforms.SMALL : Compactforms.BIG;
             checks.is("form of a set of " + many, form, () -> x.formOf(0));
             int behindFirst = many <= 8 ? 0 : many <= 16 ? 8 : many <= 32 ? 16 : 32;
             checks.is("next(0) of a set of " + many, behindFirst, () -> x.next(0, 0));
             checks.is("its last", many - 1, () -> x.at(0, x.size(0) - 1));
         }
-        Compactforms x = new Compactforms();
-        fillSet(x, 0, 33);
+        Counted x = new Counted();
+        x.fillSet(0, 33);
         for (int i = 0; i < 32; i++) {
             x.take(0, i);
         }
         checks.is("form for good", Compactforms.BIG, () -> x.formOf(0));
         checks.is("buckets for good", 32, () -> x.next(0, 0));
-        checks.same("what is left", "32", entries(x, 0));
+        checks.same("what is left", "32", x.entries(0));
         x.take(0, 32);
         x.add(0, 1);
         checks.is("form of a new one", Compactforms.SMALL, () -> x.formOf(0));
-        fillSet(x, 0, 9);
+        x.fillSet(0, 9);
         checks.is("buckets of a new one", 8, () -> x.next(0, 0));
     }
 
     private static void promise5() {
         checks.part("promise 5");
-        Compactforms x = new Compactforms();
+        Counted x = new Counted();
         checks.throwsState("take of no key", () -> x.take(0, 1));
-        fillSet(x, 0, 20);
+        x.fillSet(0, 20);
         checks.is("take", true, () -> x.take(0, 7));
         checks.is("take again", false, () -> x.take(0, 7));
         checks.is("take of no member", false, () -> x.take(0, 9999));
@@ -293,10 +252,10 @@ public final class PromisesTest {
         for (int value : NO_VALUES) {
             checks.throwsArgument("take of " + value, () -> x.take(0, value));
         }
-        fillSorted(x, 1, 10);
+        x.fillSorted(1, 10);
         checks.is("take out of a sorted one", true, () -> x.take(1, 0));
         checks.is("take out of it again", false, () -> x.take(1, 0));
-        checks.same("members", "1 2 3 4 5 6 7 8 9", entries(x, 1));
+        checks.same("members", "1 2 3 4 5 6 7 8 9", x.entries(1));
         x.rate(2, 4, ONE);
         x.expire(2, 5);
         checks.is("take of the last one", true, () -> x.take(2, 4));
@@ -313,7 +272,7 @@ public final class PromisesTest {
 
     private static void promise6() {
         checks.part("promise 6");
-        Compactforms x = new Compactforms();
+        Counted x = new Counted();
         checks.is("rate", 0, () -> x.rate(0, 5, ONE));
         checks.is("rate 0", 0, () -> x.rate(0, 6, 0));
         checks.is("rate -0", 0, () -> x.rate(0, 7, MINUS_ZERO));
@@ -321,9 +280,9 @@ public final class PromisesTest {
         checks.is("rate -2", 0, () -> x.rate(0, 9, TWO | MINUS_ZERO));
         checks.is("rate infinite", 5, () -> x.rate(0, 0, INFINITE));
         checks.is("rate -infinite", 0, () -> x.rate(0, 9999, MINUS_INFINITE));
-        checks.same("members", "9999 9 8 7 6 5 0", entries(x, 0));
+        checks.same("members", "9999 9 8 7 6 5 0", x.entries(0));
         checks.is("rate the same points", 5, () -> x.rate(0, 6, ONE));
-        checks.same("of the same points by members", "9999 9 8 7 5 6 0", entries(x, 0));
+        checks.same("of the same points by members", "9999 9 8 7 5 6 0", x.entries(0));
         checks.is("rate again to 2", 6, () -> x.rate(0, 0, TWO));
         checks.is("rate again to -1", 2, () -> x.rate(0, 0, MINUS_ONE));
         checks.is("size", 7, () -> x.size(0));
@@ -334,7 +293,7 @@ public final class PromisesTest {
         for (int bits : new int[] {INFINITE + 1, MINUS_INFINITE + 1, Integer.MAX_VALUE, -1, 0x7fc00000, 0xffc00000}) {
             checks.throwsArgument("rate to " + bits, () -> x.rate(0, 1, bits));
         }
-        fillSorted(x, 1, 40);
+        x.fillSorted(1, 40);
         checks.throwsState("rate of a 41st", () -> x.rate(1, 40, ONE));
         checks.is("rate of a member of 40", 39, () -> x.rate(1, 0, TWO));
         x.push(2, 1, true);
@@ -356,26 +315,26 @@ public final class PromisesTest {
     private static void promise6Forms() {
         checks.part("promise 6, forms");
         for (int many = 1; many <= 40; many++) {
-            Compactforms x = new Compactforms();
-            fillSorted(x, 0, many);
+            Counted x = new Counted();
+            x.fillSorted(0, many);
             checks.is("rate again", many - 1, () -> x.rate(0, x.size(0) - 1, ONE));
             int form = many <= 6 ? Compactforms.SMALL : Compactforms.BIG;
             checks.is("form of a sorted one of " + many, form, () -> x.formOf(0));
             checks.is("the points", 1f, () -> x.points(0, 0));
         }
-        Compactforms x = new Compactforms();
-        fillSorted(x, 0, 7);
+        Counted x = new Counted();
+        x.fillSorted(0, 7);
         x.take(0, 3);
         checks.is("form for good", Compactforms.BIG, () -> x.formOf(0));
     }
 
     private static void promise7() {
         checks.part("promise 7");
-        Compactforms x = new Compactforms();
+        Counted x = new Counted();
         checks.is("append", 1, () -> x.append(0, 9999));
         checks.is("append", 2, () -> x.append(0, 0));
         checks.is("append of the same", 3, () -> x.append(0, 9999));
-        checks.same("entries", "9999 0 9999", entries(x, 0));
+        checks.same("entries", "9999 0 9999", x.entries(0));
         for (int value : NO_VALUES) {
             checks.throwsArgument("append of " + value, () -> x.append(0, value));
         }
@@ -404,7 +363,7 @@ public final class PromisesTest {
 
     private static void promise8() {
         checks.part("promise 8");
-        Compactforms x = new Compactforms();
+        Counted x = new Counted();
         checks.throwsState("read of no key", () -> x.read(0, 0, 0));
         x.append(0, 50);
         x.append(0, 60);
@@ -425,7 +384,7 @@ public final class PromisesTest {
         }
         x.push(1, 1, true);
         checks.throwsState("read of a list", () -> x.read(1, 0, 0));
-        fillStream(x, 2, 40);
+        x.fillStream(2, 40);
         for (int i = 1; i <= 40; i++) {
             int entry = i;
             checks.is("read of 40", entry, () -> x.read(2, 2, 3));
@@ -437,9 +396,9 @@ public final class PromisesTest {
 
     private static void promise9() {
         checks.part("promise 9");
-        Compactforms x = new Compactforms();
+        Counted x = new Counted();
         checks.throwsState("done of no key", () -> x.done(0, 0, 1));
-        fillStream(x, 0, 3);
+        x.fillStream(0, 3);
         checks.is("done of what is not read", false, () -> x.done(0, 1, 1));
         x.read(0, 1, 2);
         checks.is("done in another group", false, () -> x.done(0, 0, 1));
@@ -460,9 +419,9 @@ public final class PromisesTest {
 
     private static void promise10() {
         checks.part("promise 10");
-        Compactforms x = new Compactforms();
+        Counted x = new Counted();
         checks.throwsState("claim of no key", () -> x.claim(0, 0, 0, 0));
-        fillStream(x, 0, 4);
+        x.fillStream(0, 4);
         x.read(0, 0, 0);
         x.tick(5);
         x.read(0, 0, 1);
@@ -497,11 +456,11 @@ public final class PromisesTest {
 
     private static void promise11() {
         checks.part("promise 11");
-        Compactforms x = new Compactforms();
+        Counted x = new Counted();
         checks.is("waiting of no key", 0, () -> x.waiting(0, 0, 0));
         x.push(0, 1, true);
         checks.is("waiting of a list", 0, () -> x.waiting(0, 2, 3));
-        fillStream(x, 1, 3);
+        x.fillStream(1, 3);
         x.read(1, 2, 3);
         x.read(1, 2, 3);
         checks.is("waiting", 2, () -> x.waiting(1, 2, 3));
@@ -523,7 +482,7 @@ public final class PromisesTest {
 
     private static void promise12() {
         checks.part("promise 12");
-        Compactforms x = new Compactforms();
+        Counted x = new Counted();
         checks.is("remove of no key", false, () -> x.remove(0));
         checks.is("rows", 0, () -> x.rows());
         x.push(0, 1, true);
@@ -544,7 +503,7 @@ public final class PromisesTest {
 
     private static void promise13() {
         checks.part("promise 13");
-        Compactforms x = new Compactforms();
+        Counted x = new Counted();
         checks.is("expire of no key", false, () -> x.expire(0, 1));
         checks.is("rows", 0, () -> x.rows());
         x.push(0, 1, true);
@@ -566,7 +525,7 @@ public final class PromisesTest {
 
     private static void promise14() {
         checks.part("promise 14");
-        Compactforms x = new Compactforms();
+        Counted x = new Counted();
         checks.is("left of no key", 0, () -> x.left(0));
         x.push(0, 1, true);
         checks.is("left without an end", Compactforms.NONE, () -> x.left(0));
@@ -583,7 +542,7 @@ public final class PromisesTest {
 
     private static void promise15() {
         checks.part("promise 15");
-        Compactforms x = new Compactforms();
+        Counted x = new Counted();
         checks.is("tick", 1, () -> x.tick(1));
         checks.is("tick", 1001, () -> x.tick(1000));
         for (int ticks : new int[] {0, -1, 1001, Integer.MIN_VALUE, Integer.MAX_VALUE}) {
@@ -599,7 +558,7 @@ public final class PromisesTest {
 
     private static void promise16() {
         checks.part("promise 16");
-        Compactforms x = new Compactforms();
+        Counted x = new Counted();
         checks.is("sample of no keys", 0, () -> x.sample(16));
         for (int key : new int[] {0, 1, 3, 7, 15}) {
             x.push(key, 1, true);
@@ -628,7 +587,7 @@ public final class PromisesTest {
             checks.throwsArgument("sample of " + many, () -> x.sample(many));
         }
         promise16AllAtOnce();
-        Compactforms lone = new Compactforms();
+        Counted lone = new Counted();
         lone.push(0, 1, true);
         lone.expire(0, 2);
         lone.tick(1);
@@ -639,7 +598,7 @@ public final class PromisesTest {
     }
 
     private static void promise16AllAtOnce() {
-        Compactforms x = new Compactforms();
+        Counted x = new Counted();
         for (int key = 0; key < 16; key++) {
             x.append(key, 1);
             x.expire(key, 1 + key % 2);
@@ -655,7 +614,7 @@ public final class PromisesTest {
 
     private static void promise17() {
         checks.part("promise 17");
-        Compactforms x = new Compactforms();
+        Counted x = new Counted();
         for (int key = 0; key < 16; key++) {
             int many = key + 1;
             x.rate(key, 1, ONE);
@@ -672,7 +631,7 @@ public final class PromisesTest {
 
     private static void promise18() {
         checks.part("promise 18");
-        Compactforms x = new Compactforms();
+        Counted x = new Counted();
         checks.is("rewrite of no keys", 0, () -> x.rewrite());
         checks.is("it goes on", 0, () -> x.writeOn(1));
         checks.throwsState("it goes on no more", () -> x.writeOn(1));
@@ -694,7 +653,7 @@ public final class PromisesTest {
 
     private static void promise19() {
         checks.part("promise 19");
-        Compactforms x = new Compactforms();
+        Counted x = new Counted();
         checks.throwsState("writeOn at first", () -> x.writeOn(1));
         for (int key = 0; key < 16; key++) {
             x.append(key, 1);
@@ -719,7 +678,7 @@ public final class PromisesTest {
 
     private static void promise19Contents() {
         checks.part("promise 19, the new log");
-        Compactforms x = new Compactforms();
+        Counted x = new Counted();
         x.push(0, 7, true);
         x.push(0, 8, false);
         x.push(0, 9, true);
@@ -765,12 +724,12 @@ public final class PromisesTest {
 
     private static void promise19FullLogs() {
         checks.part("promise 19, full logs");
-        Compactforms x = new Compactforms();
+        Counted x = new Counted();
         for (int key = 0; key < 7; key++) {
-            fillStream(x, key, 40);
+            x.fillStream(key, 40);
         }
         x.rewrite();
-        fillSet(x, 7, 20);
+        x.fillSet(7, 20);
         checks.is("writeOn", 0, () -> x.writeOn(16));
         checks.is("rows that all stay", 300, () -> x.rows());
         checks.is("rewrite", 8, () -> x.rewrite());
@@ -782,7 +741,7 @@ public final class PromisesTest {
 
     private static void promise19Streams() {
         checks.part("promise 19, streams");
-        Compactforms x = new Compactforms();
+        Counted x = new Counted();
         x.append(0, 1);
         x.read(0, 0, 0);
         x.remove(0);
@@ -809,12 +768,12 @@ public final class PromisesTest {
         x.writeOn(16);
         checks.is("rows since it was made anew", 2, () -> x.rows());
         x.restart();
-        checks.same("its entries", "4", entries(x, 0));
+        checks.same("its entries", "4", x.entries(0));
     }
 
     private static void promise20() {
         checks.part("promise 20");
-        Compactforms x = new Compactforms();
+        Counted x = new Counted();
         x.push(0, 1, true);
         x.expire(0, 10);
         x.tick(4);
@@ -850,8 +809,8 @@ public final class PromisesTest {
 
     private static void promise20Forms() {
         checks.part("promise 20, forms");
-        Compactforms x = new Compactforms();
-        fillSet(x, 0, 33);
+        Counted x = new Counted();
+        x.fillSet(0, 33);
         for (int i = 0; i < 17; i++) {
             x.take(0, i);
         }
@@ -876,12 +835,12 @@ public final class PromisesTest {
         x.writeOn(2);
         x.restart();
         checks.is("form of the set", Compactforms.SMALL, () -> x.formOf(0));
-        checks.same("the set", "25 26 27 28 29 30 31 32", entries(x, 0));
+        checks.same("the set", "25 26 27 28 29 30 31 32", x.entries(0));
     }
 
     private static void promise21() {
         checks.part("promise 21");
-        Compactforms x = new Compactforms();
+        Counted x = new Counted();
         x.push(0, 1, true);
         x.pop(0, true);
         x.rate(0, 1, ONE);
@@ -913,12 +872,12 @@ public final class PromisesTest {
 
     private static void promise21FullLog() {
         checks.part("promise 21, a full log");
-        Compactforms x = new Compactforms();
+        Counted x = new Counted();
         x.push(0, 1, true);
         x.add(1, 1);
         x.rate(2, 1, ONE);
         x.append(3, 1);
-        fillLog(x);
+        x.fillLog(300);
         checks.is("rows", 300, () -> x.rows());
         checks.throwsState("push", () -> x.push(0, 1, true));
         checks.throwsState("pop", () -> x.pop(0, true));
@@ -948,7 +907,7 @@ public final class PromisesTest {
 
     private static void promise22() {
         checks.part("promise 22");
-        Compactforms x = new Compactforms();
+        Counted x = new Counted();
         x.push(1, 1, true);
         x.add(2, 1);
         x.rate(3, 1, ONE);
@@ -961,7 +920,7 @@ public final class PromisesTest {
 
     private static void promise23() {
         checks.part("promise 23");
-        Compactforms x = new Compactforms();
+        Counted x = new Counted();
         checks.is("form of no key", 0, () -> x.formOf(0));
         x.push(0, 1, true);
         checks.is("form", Compactforms.SMALL, () -> x.formOf(0));
@@ -976,12 +935,12 @@ public final class PromisesTest {
 
     private static void promise24() {
         checks.part("promise 24");
-        Compactforms x = new Compactforms();
+        Counted x = new Counted();
         checks.is("size of no key", 0, () -> x.size(0));
-        fillList(x, 0, 12);
-        fillSet(x, 1, 40);
-        fillSorted(x, 2, 3);
-        fillStream(x, 3, 17);
+        x.fillList(0, 12);
+        x.fillSet(1, 40);
+        x.fillSorted(2, 3);
+        x.fillStream(3, 17);
         checks.is("sizes", "12 40 3 17", () -> x.size(0) + " " + x.size(1) + " " + x.size(2) + " " + x.size(3));
         x.expire(3, 1);
         x.tick(1);
@@ -990,7 +949,7 @@ public final class PromisesTest {
 
     private static void promise25() {
         checks.part("promise 25");
-        Compactforms x = new Compactforms();
+        Counted x = new Counted();
         checks.throwsIndex("at of no key", () -> x.at(0, 0));
         x.push(0, 3, true);
         x.push(0, 900, true);
@@ -1018,7 +977,7 @@ public final class PromisesTest {
 
     private static void promise26() {
         checks.part("promise 26");
-        Compactforms x = new Compactforms();
+        Counted x = new Counted();
         checks.throwsIndex("atByPlain of no key", () -> x.atByPlain(0, 0));
         for (int i = 0; i < 40; i++) {
             int member = (i * 777) % 10000;
@@ -1029,7 +988,7 @@ public final class PromisesTest {
         }
         for (int key = 0; key < 4; key++) {
             int k = key;
-            checks.is("a plain list beside a form", false, () -> entries(x, k).contains("?"));
+            checks.is("a plain list beside a form", false, () -> x.entries(k).contains("?"));
         }
         checks.is("the first of a list", 38 * 777 % 10000, () -> x.atByPlain(0, 0));
         checks.is("the least of a set", 0, () -> x.atByPlain(1, 0));
@@ -1042,7 +1001,7 @@ public final class PromisesTest {
 
     private static void promise27() {
         checks.part("promise 27");
-        Compactforms x = new Compactforms();
+        Counted x = new Counted();
         checks.is("indexOf of no key", Compactforms.NONE, () -> x.indexOf(0, 1));
         for (int i = 0; i < 10; i++) {
             x.push(0, 100 + i % 3, true);
@@ -1071,7 +1030,7 @@ public final class PromisesTest {
 
     private static void promise28() {
         checks.part("promise 28");
-        Compactforms x = new Compactforms();
+        Counted x = new Counted();
         checks.throwsState("points of no key", () -> x.points(0, 1));
         int[] some = {
             0, MINUS_ZERO, 1, MINUS_ZERO | 1, 0x007fffff, 0x00800000, 0x00800001, ONE, MINUS_ONE, TWO, 0x3f7fffff,
@@ -1099,11 +1058,11 @@ public final class PromisesTest {
 
     private static void promise29() {
         checks.part("promise 29");
-        Compactforms x = new Compactforms();
+        Counted x = new Counted();
         checks.throwsState("next of no key", () -> x.next(0, 0));
         x.push(1, 1, true);
         checks.throwsState("next of a list", () -> x.next(1, 0));
-        fillSet(x, 0, 8);
+        x.fillSet(0, 8);
         checks.is("next of a small one", 0, () -> x.next(0, 5));
         for (int cursor : new int[] {-1, 1024, Integer.MIN_VALUE, Integer.MAX_VALUE}) {
             checks.throwsArgument("next of " + cursor, () -> x.next(0, cursor));
@@ -1132,7 +1091,7 @@ public final class PromisesTest {
 
     private static void promise30() {
         checks.part("promise 30");
-        Compactforms x = new Compactforms();
+        Counted x = new Counted();
         checks.throwsState("scanned of no key", () -> x.scanned(0, 0, 0));
         x.rate(1, 1, ONE);
         checks.throwsState("scanned of a sorted one", () -> x.scanned(1, 0, 0));
@@ -1160,7 +1119,7 @@ public final class PromisesTest {
     }
 
     private static void promise30WholeScan() {
-        Compactforms x = new Compactforms();
+        Counted x = new Counted();
         java.util.TreeSet<Integer> added = new java.util.TreeSet<>();
         for (int i = 0; i < 40; i++) {
             x.add(0, i * 251 % 10000);
@@ -1186,7 +1145,7 @@ public final class PromisesTest {
 
     private static void wrongKeys() {
         checks.part("wrong keys");
-        Compactforms x = new Compactforms();
+        Counted x = new Counted();
         for (int key : NO_KEYS) {
             checks.throwsIndex("push", () -> x.push(key, 1, true));
             checks.throwsIndex("pop", () -> x.pop(key, true));
@@ -1215,7 +1174,7 @@ public final class PromisesTest {
 
     private static void orderOfExceptions() {
         checks.part("the order of exceptions");
-        Compactforms x = new Compactforms();
+        Counted x = new Counted();
         x.add(0, 1);
         x.push(1, 1, true);
         checks.throwsIndex("push", () -> x.push(-1, -1, true));
@@ -1248,8 +1207,8 @@ public final class PromisesTest {
 
     private static void throwingChangesNothing() {
         checks.part("a call that throws");
-        Compactforms x = new Compactforms();
-        fillList(x, 0, 2);
+        Counted x = new Counted();
+        x.fillList(0, 2);
         x.add(1, 3);
         x.rate(2, 3, ONE);
         x.append(3, 3);
