@@ -17,6 +17,7 @@ public final class KeysTest {
         dueIsHeldUntilAValueIsMade();
         madeFirst();
         madeAnewWithoutAnythingOfTheOld();
+        madeAnewThoughBig();
         withoutEntries();
         withoutEntriesThoughBig();
         streamsStay();
@@ -249,6 +250,39 @@ public final class KeysTest {
         }
     }
 
+    private static void madeAnewThoughBig() {
+        checks.says(SECTION, "or a new value is made for it.");
+        for (int type = LIST; type <= STREAM; type++) {
+            for (int way = 0; way < 3; way++) {
+                Counted x = new Counted();
+                x.fill(type, 0, 20);
+                for (int i = 0; i < 20 && type == LIST; i++) {
+                    x.push(0, 20 + i, false);
+                }
+                if (way == 0) {
+                    x.remove(0);
+                } else {
+                    x.expire(0, 1);
+                    x.tick(1);
+                }
+                if (way == 2) {
+                    x.sample(16);
+                }
+                StringBuilder due = new StringBuilder();
+                for (int i = 0; i < 17; i++) {
+                    grow(x, type, 1000 + i);
+                    due.append(1000 + i).append(i < 16 ? " " : "");
+                }
+                checks.is("its form", BIG, () -> x.formOf(0));
+                checks.is("its entries", due.toString(), () -> x.entries(0));
+                for (int old = 0; old < 40; old++) {
+                    int o = old;
+                    checks.is("the place of an old one", NONE, () -> x.indexOf(0, o));
+                }
+            }
+        }
+    }
+
     private static void withoutEntries() {
         checks.says(SECTION, "A LIST, SET or SORTED without entries is removed at once, so it is not there.");
         for (boolean atEnd : new boolean[] {false, true}) {
@@ -350,16 +384,16 @@ public final class KeysTest {
         }
     }
 
-    private static Object grow(Counted x, int type) {
+    private static Object grow(Counted x, int type, int value) {
         switch (type) {
             case LIST:
-                return x.push(0, 50, true);
+                return x.push(0, value, true);
             case SET:
-                return x.add(0, 50);
+                return x.add(0, value);
             case SORTED:
-                return x.rate(0, 50, Bits.ONE);
+                return x.rate(0, value, Bits.ONE);
             default:
-                return x.append(0, 50);
+                return x.append(0, value);
         }
     }
 
@@ -369,20 +403,15 @@ public final class KeysTest {
             int t = type;
             Counted x = new Counted();
             x.fill(type, 0, 39);
-            checks.answers("the 40th of type " + type, () -> grow(x, t));
+            checks.answers("the 40th of type " + type, () -> grow(x, t, 50));
             checks.is("size", 40, () -> x.size(0));
             checks.is("the last one", 50, () -> x.at(0, 39));
             int rows = x.rows();
-            checks.throwsState("the 41st of type " + type, () -> t == LIST ? grow(x, t) : other(x, t));
+            checks.throwsState("the 41st of type " + type, () -> grow(x, t, 51));
             checks.is("size", 40, () -> x.size(0));
             checks.is("rows", rows, () -> x.rows());
             checks.throwsIndex("at 40", () -> x.at(0, 40));
         }
-    }
-
-    /** A member or entry that is none yet. */
-    private static Object other(Counted x, int type) {
-        return type == SET ? x.add(0, 51) : type == SORTED ? x.rate(0, 51, Bits.ZERO) : x.append(0, 51);
     }
 
     private static void atMost40Again() {
@@ -396,9 +425,9 @@ public final class KeysTest {
             } else {
                 x.take(0, 0);
             }
-            checks.answers("the 40th again", () -> grow(x, t));
+            checks.answers("the 40th again", () -> grow(x, t, 50));
             checks.is("size", 40, () -> x.size(0));
-            checks.throwsState("the 41st", () -> t == LIST ? x.push(0, 1, false) : other(x, t));
+            checks.throwsState("the 41st", () -> grow(x, t, 51));
         }
         Counted x = new Counted();
         x.fill(LIST, 1, 40);

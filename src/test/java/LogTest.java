@@ -323,8 +323,10 @@ public final class LogTest {
     /** The rows that a rewriting of the lone key 0 leaves, and what it tells then and behind a restart. */
     private static void rewritten(Counted x, int rows) {
         String before = x.told(0);
+        int form = x.formOf(0);
         checks.is("rewrite", 1, () -> x.rewrite());
         checks.is("writeOn", 0, () -> x.writeOn(1));
+        checks.is("its form", form, () -> x.formOf(0));
         checks.is("rows", rows, () -> x.rows());
         checks.is("what it tells", before, () -> x.told(0));
         checks.is("restart", 1, () -> x.restart());

@@ -62,6 +62,7 @@ final class Returns {
 
     private void aNewObject() {
         checks.says("Promise 1:", "No keys, the clock 0, an empty log.");
+        aNewObjectAtOnce();
         Counted x = new Counted();
         for (int key = 0; key <= 15; key++) {
             int k = key;
@@ -83,6 +84,33 @@ final class Returns {
             checks.answers("row " + row, () -> row % 2 == 1 ? y.push(0, 1, true) : y.pop(0, true));
         }
         checks.throwsState("row 301", () -> y.push(0, 1, true));
+    }
+
+    /** Each question and each call that needs something, as the very first call. */
+    private void aNewObjectAtOnce() {
+        checks.throwsState("writeOn first", () -> new Counted().writeOn(1));
+        checks.is("restart first", 0, () -> new Counted().restart());
+        checks.is("rewrite first", 0, () -> new Counted().rewrite());
+        checks.is("sample first", 0, () -> new Counted().sample(1));
+        checks.is("tick first", 1000, () -> new Counted().tick(1000));
+        checks.is("held first", 0, () -> new Counted().held());
+        checks.is("rows first", 0, () -> new Counted().rows());
+        for (int key : new int[] {0, 15}) {
+            checks.throwsState("pop first", () -> new Counted().pop(key, true));
+            checks.throwsState("take first", () -> new Counted().take(key, 0));
+            checks.throwsState("read first", () -> new Counted().read(key, 0, 0));
+            checks.throwsState("done first", () -> new Counted().done(key, 0, 0));
+            checks.throwsState("claim first", () -> new Counted().claim(key, 0, 0, 0));
+            checks.throwsState("points first", () -> new Counted().points(key, 0));
+            checks.throwsState("next first", () -> new Counted().next(key, 0));
+            checks.throwsState("scanned first", () -> new Counted().scanned(key, 0, 0));
+            checks.throwsIndex("at first", () -> new Counted().at(key, 0));
+            checks.throwsIndex("atByPlain first", () -> new Counted().atByPlain(key, 0));
+            checks.is("expire first", false, () -> new Counted().expire(key, 1));
+            checks.is("remove first", false, () -> new Counted().remove(key));
+            checks.is("indexOf first", NONE, () -> new Counted().indexOf(key, 0));
+            checks.is("waiting first", 0, () -> new Counted().waiting(key, 0, 0));
+        }
     }
 
     // ---- lists, sets, sorted ones
@@ -449,6 +477,24 @@ final class Returns {
         y.restart();
         checks.is("sample of 4", 1, () -> y.sample(1));
         checks.is("sample of all others", 15, () -> y.sample(16));
+        Counted two = new Counted();
+        two.push(0, 1, true);
+        two.push(5, 1, true);
+        two.expire(0, 1);
+        two.expire(5, 1000);
+        checks.is("sample of 0 and 5, and not of 0 again", 0, () -> two.sample(16));
+        two.tick(1);
+        checks.is("sample of what is behind 5", 1, () -> two.sample(1));
+        Counted some = new Counted();
+        some.push(3, 1, true);
+        some.push(5, 1, true);
+        some.expire(3, 1000);
+        some.expire(5, 1000);
+        checks.is("sample of 3 and 5, though all were passed", 0, () -> some.sample(16));
+        some.push(10, 1, true);
+        some.expire(10, 1);
+        some.tick(1);
+        checks.is("sample of 10, behind 5", 1, () -> some.sample(1));
         Counted z = new Counted();
         z.push(7, 1, true);
         z.expire(7, 1);
@@ -761,6 +807,17 @@ final class Returns {
             int member = 961 + i;
             checks.is("in a set", i, () -> x.indexOf(SET, member));
             checks.is("in a sorted one", i == 0 ? 39 : i - 1, () -> x.indexOf(SORTED, member));
+        }
+        for (int many : new int[] {2, 8, 9, 17, 40}) {
+            Counted y = new Counted();
+            for (int i = 0; i < many; i++) {
+                y.push(0, 9, true);
+                y.append(1, 9);
+            }
+            checks.is("the first of many that are the same", "0 0", () -> y.indexOf(0, 9) + " " + y.indexOf(1, 9));
+            y.pop(0, true);
+            y.push(0, 8, false);
+            checks.is("the first behind another", 1, () -> y.indexOf(0, 9));
         }
         checks.says("Promise 27:", "NONE if there is none.");
         for (int type = LIST; type <= STREAM; type++) {
