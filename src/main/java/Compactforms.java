@@ -344,26 +344,38 @@ public final class Compactforms {
 
     // ---- what calls need
 
+    private static boolean isWithin(int number, int least, int most) {
+        return least <= number && number <= most;
+    }
+
+    private static boolean isKey(int key) {
+        return isWithin(key, 0, KEYS - 1);
+    }
+
+    private static boolean isGroup(int group) {
+        return isWithin(group, 0, GROUPS - 1);
+    }
+
     private static void needKey(int key) {
-        if (key < 0 || key >= KEYS) {
+        if (!isKey(key)) {
             throw new IndexOutOfBoundsException("no such key");
         }
     }
 
     private static void needGroup(int group) {
-        if (group < 0 || group >= GROUPS) {
+        if (!isGroup(group)) {
             throw new IndexOutOfBoundsException("no such group");
         }
     }
 
     private static void needReader(int reader) {
-        if (reader < 0 || reader >= READERS) {
+        if (!isWithin(reader, 0, READERS - 1)) {
             throw new IndexOutOfBoundsException("no such reader");
         }
     }
 
     private void needIndex(int key, int index) {
-        if (index < 0 || index >= sizeNow(key)) {
+        if (!isWithin(index, 0, sizeNow(key) - 1)) {
             throw new IndexOutOfBoundsException("no such index");
         }
     }
@@ -373,7 +385,7 @@ public final class Compactforms {
     }
 
     private static void needWithin(int number, int least, int most) {
-        if (number < least || number > most) {
+        if (!isWithin(number, least, most)) {
             throw new IllegalArgumentException("out of range");
         }
     }
@@ -482,8 +494,11 @@ public final class Compactforms {
 
     /** The row gets the id of the value that is made by it now, so that a stream still finds its rows. */
     private void doAgain(int row) {
-        clock = log.cell(row, CLOCK);
         int key = log.cell(row, KEY);
+        if (!isKey(key)) {
+            return;
+        }
+        clock = log.cell(row, CLOCK);
         perform(log.cell(row, KIND), key, log.cell(row, FIRST), log.cell(row, SECOND), log.cell(row, THIRD));
         log.stamp(row, clock, values[key].id);
     }
@@ -941,7 +956,7 @@ public final class Compactforms {
         private int readBackwards(int number) {
             int rest = number;
             int backwards = 0;
-            for (int bit = 1; bit < buckets; bit *= 2) {
+            for (int bit = 1; bit < MOST_BUCKETS && bit < buckets; bit *= 2) {
                 backwards = backwards * 2 + (rest & 1);
                 rest = rest >> 1;
             }
@@ -969,8 +984,11 @@ public final class Compactforms {
         }
 
         int giveNext(int group, int reader, int entries, int now) {
+            if (!isGroup(group)) {
+                return NONE;
+            }
             int entry = places[group] + 1;
-            if (entry > entries) {
+            if (entry > entries || !isWithin(entry, 1, ENTRIES)) {
                 return NONE;
             }
             places[group] = entry;
@@ -980,14 +998,19 @@ public final class Compactforms {
 
         /** Answers 1 if the entry waited, otherwise 0. */
         int finish(int group, int entry) {
-            if (entry < 1 || entry > ENTRIES || waits[group * ENTRIES + entry - 1] == NONE) {
+            if (!isGroup(group) || !isWithin(entry, 1, ENTRIES)) {
                 return 0;
             }
-            waits[group * ENTRIES + entry - 1] = NONE;
-            return 1;
+            int place = group * ENTRIES + entry - 1;
+            boolean waited = waits[place] != NONE;
+            waits[place] = NONE;
+            return waited ? 1 : 0;
         }
 
         int moveTo(int group, int reader, int ticks, int now) {
+            if (!isGroup(group)) {
+                return 0;
+            }
             int moved = 0;
             for (int i = group * ENTRIES; i < (group + 1) * ENTRIES; i++) {
                 boolean forAnother = waits[i] != NONE && waits[i] % READERS != reader;
@@ -1000,6 +1023,9 @@ public final class Compactforms {
         }
 
         int countWaiting(int group, int reader) {
+            if (!isGroup(group)) {
+                return 0;
+            }
             int count = 0;
             for (int i = group * ENTRIES; i < (group + 1) * ENTRIES; i++) {
                 if (waits[i] != NONE && waits[i] % READERS == reader) {
@@ -1049,7 +1075,7 @@ public final class Compactforms {
         }
 
         void copyRows(Log from, int row, int many) {
-            if (row < 0 || many < 0 || row + many > from.count || count + many > ROWS) {
+            if (row < 0 || many < 0 || many > from.count - row || many > ROWS - count) {
                 return;
             }
             System.arraycopy(from.cells, row * COLUMNS, cells, count * COLUMNS, many * COLUMNS);
