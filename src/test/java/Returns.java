@@ -897,15 +897,32 @@ final class Returns {
         scannedAllInOneBucket();
     }
 
+    /** The first ones whose bucket of 64 is the last. */
+    private static int[] ofTheLastBucket(int many) {
+        int[] values = new int[many];
+        int found = 0;
+        for (int v = 0; found < many; v++) {
+            if ((193 * v + v / 32) % 64 == 63) {
+                values[found] = v;
+                found++;
+            }
+        }
+        return values;
+    }
+
+    private void noMember(Counted x, int value) {
+        checks.is("the place of " + value, NONE, () -> x.indexOf(0, value));
+        checks.throwsState("add of " + value, () -> x.add(0, value));
+        checks.is("take of " + value, false, () -> x.take(0, value));
+        checks.is("size", 40, () -> x.size(0));
+    }
+
     private void scannedAllInOneBucket() {
         Counted x = new Counted();
+        int[] values = ofTheLastBucket(42);
         int[] members = new int[40];
-        int many = 0;
-        for (int v = 0; many < 40; v++) {
-            if ((193 * v + v / 32) % 64 == 63) {
-                members[many] = v;
-                many++;
-            }
+        for (int i = 0; i < 40; i++) {
+            members[i] = values[i < 20 ? i : i + 1];
         }
         for (int i = 0; i < 40; i++) {
             x.add(0, members[i * 17 % 40]);
@@ -915,6 +932,9 @@ final class Returns {
             checks.is("at " + i + " of a bucket of 40", members[i], () -> x.scanned(0, 63, index));
         }
         checks.is("behind the last of 40", NONE, () -> x.scanned(0, 63, 40));
+        // Others of this bucket: one between two members, and one behind the last.
+        noMember(x, values[20]);
+        noMember(x, values[41]);
         for (int bucket = 0; bucket < 63; bucket++) {
             int b = bucket;
             checks.is("of the empty bucket " + bucket, NONE, () -> x.scanned(0, b, 0));

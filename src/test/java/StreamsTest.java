@@ -336,12 +336,14 @@ public final class StreamsTest {
             int g = group;
             Counted x = stream(40);
             for (int entry = 1; entry <= 40; entry++) {
-                x.read(0, g, 1);
-                x.read(0, (g + 1) % 3, 1);
+                x.read(0, 0, 1);
+                x.read(0, 1, 1);
+                x.read(0, 2, 1);
             }
             checks.is("claim of all", 40, () -> x.claim(0, g, 0, 0));
             checks.is("what waits", "40 0 0 0", () -> x.waits(0, g));
             checks.is("in the next group", "0 40 0 0", () -> x.waits(0, (g + 1) % 3));
+            checks.is("in the third group", "0 40 0 0", () -> x.waits(0, (g + 2) % 3));
         }
     }
 }
