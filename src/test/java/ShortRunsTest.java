@@ -1,4 +1,5 @@
 import java.util.ArrayList;
+import java.util.Arrays;
 import java.util.List;
 import java.util.concurrent.atomic.AtomicInteger;
 import java.util.stream.IntStream;
@@ -145,7 +146,7 @@ public final class ShortRunsTest {
 
     /** All that can be asked then, when the rewriting is through, and behind a restart from what it wrote. */
     private static String differences(Compactforms server, Model model) {
-        String fault = compared("all", told(server), told(model));
+        String fault = asked(server, model);
         if (fault.isEmpty()) {
             fault = compared("writeOn(16)", Checks.answerOf(() -> server.writeOn(16)), Checks.answerOf(() -> model.writeOn(16)));
         }
@@ -156,7 +157,7 @@ public final class ShortRunsTest {
             fault = compared("restart()", server.restart(), model.restart());
         }
         if (fault.isEmpty()) {
-            fault = compared("all behind a restart", told(server), told(model));
+            fault = asked(server, model);
         }
         // Since when entries wait shows only here: the first claim that gets them tells it.
         for (int ticks = CALLS; ticks >= 0 && fault.isEmpty(); ticks--) {
@@ -167,37 +168,34 @@ public final class ShortRunsTest {
         return fault;
     }
 
-    private static String told(Compactforms x) {
-        StringBuilder told = new StringBuilder();
-        told.append(x.held()).append(' ').append(x.rows());
-        for (int key = 0; key < 2; key++) {
-            told.append(" | ").append(x.typeOf(key)).append(' ').append(x.formOf(key)).append(' ').append(x.left(key));
-            for (int i = 0; i < x.size(key); i++) {
-                int entry = x.at(key, i);
-                told.append(' ').append(entry).append(' ').append(x.atByPlain(key, i));
-                told.append(x.typeOf(key) == Compactforms.SORTED ? " " + x.points(key, entry) : "");
-            }
-            for (int reader = 0; reader < 4; reader++) {
-                told.append(' ').append(x.waiting(key, 1, reader));
+    private static String asked(Compactforms x, Model y) {
+        String fault = compared("held()", x.held(), y.held());
+        if (fault.isEmpty()) {
+            fault = compared("rows()", x.rows(), y.rows());
+        }
+        for (int key = 0; key < 2 && fault.isEmpty(); key++) {
+            int[] got = {
+                x.typeOf(key), x.formOf(key), x.left(key), x.size(key),
+                x.waiting(key, 1, 0), x.waiting(key, 1, 1), x.waiting(key, 1, 2), x.waiting(key, 1, 3),
+            };
+            int[] due = {
+                y.typeOf(key), y.formOf(key), y.left(key), y.size(key),
+                y.waiting(key, 1, 0), y.waiting(key, 1, 1), y.waiting(key, 1, 2), y.waiting(key, 1, 3),
+            };
+            fault = compared("type, form, left, size, what waits of " + key, Arrays.toString(got), Arrays.toString(due));
+            for (int i = 0; i < x.size(key) && fault.isEmpty(); i++) {
+                fault = askedOfEntry(x, y, key, i);
             }
         }
-        return told.toString();
+        return fault;
     }
 
-    private static String told(Model x) {
-        StringBuilder told = new StringBuilder();
-        told.append(x.held()).append(' ').append(x.rows());
-        for (int key = 0; key < 2; key++) {
-            told.append(" | ").append(x.typeOf(key)).append(' ').append(x.formOf(key)).append(' ').append(x.left(key));
-            for (int i = 0; i < x.size(key); i++) {
-                int entry = x.at(key, i);
-                told.append(' ').append(entry).append(' ').append(entry);
-                told.append(x.typeOf(key) == Compactforms.SORTED ? " " + x.points(key, entry) : "");
-            }
-            for (int reader = 0; reader < 4; reader++) {
-                told.append(' ').append(x.waiting(key, 1, reader));
-            }
+    private static String askedOfEntry(Compactforms x, Model y, int key, int index) {
+        int entry = y.at(key, index);
+        if (x.at(key, index) != entry || x.atByPlain(key, index) != entry) {
+            return "at() or atByPlain() of " + key + " is not " + entry + " for " + index;
         }
-        return told.toString();
+        boolean sorted = y.typeOf(key) == Compactforms.SORTED;
+        return sorted ? compared("points() of " + entry, x.points(key, entry), y.points(key, entry)) : "";
     }
 }
